@@ -1,0 +1,28 @@
+/** Counts the answers that are not as due, and ends the test by exit code 1 if there is one. */
+final class Due {
+    private static int asked = 0;
+    private static int wrong = 0;
+
+    static void is(String call, long got, long want) {
+        asked++;
+        if (got != want) {
+            wrong++;
+            System.out.println(call + " answered " + got + ", due is " + want);
+        }
+    }
+
+    static void is(String call, boolean got, boolean want) {
+        is(call, got ? 1L : 0L, want ? 1L : 0L);
+    }
+
+    static int wrongSoFar() {
+        return wrong;
+    }
+
+    static void finish() {
+        System.out.println(asked + " answers, " + wrong + " not as due");
+        if (wrong != 0 || asked == 0) {
+            System.exit(1);
+        }
+    }
+}

@@ -1,0 +1,36 @@
+/** Promise 10: fits. */
+public final class FitsTest {
+    public static void main(String[] args) {
+        int[][] want = {
+            {0, 0, 0, 0},
+            {1, 0, 1, 0},
+            {2, 2, 0, 0},
+            {1, 2, 1, 0},
+            {1, 0, 1, 0}};
+        for (int own = 0; own < 5; own++) {
+            CountDesk desk = new CountDesk();
+            desk.goal(0, own);
+            for (int kind = 0; kind < 4; kind++) {
+                Due.is("fits(" + kind + ") of kind " + own, desk.fits(kind), want[own][kind]);
+            }
+            int[] other = {-1, 4, 5, Integer.MIN_VALUE, Integer.MAX_VALUE};
+            for (int kind : other) {
+                Due.is("fits(" + kind + ") of kind " + own, desk.fits(kind), 3);
+            }
+        }
+        knowsSwitches();
+        Due.finish();
+    }
+
+    private static void knowsSwitches() {
+        CountDesk desk = new CountDesk();
+        int choice = desk.add(0, 1);
+        desk.take(choice, 0, 0, 2);
+        Due.is("one constructor of two", desk.fits(0), 1);
+        desk.take(choice, 0, 1, 2);
+        Due.is("both constructors", desk.fits(0), 0);
+        desk.take(choice, 0, 1, 2);
+        Due.is("one of them twice", desk.fits(0), 2);
+        Due.is("one of them twice, MULTI", desk.fits(2), 0);
+    }
+}
