@@ -42,11 +42,11 @@ public final class CountDesk {
     public CountDesk() {
         nodes = new Node[NODE_LIMIT];
         splitter = new Splitter();
-        begin();
+        startOver();
     }
 
     public void clear() {
-        begin();
+        startOver();
     }
 
     public boolean put(int x) {
@@ -139,7 +139,7 @@ public final class CountDesk {
         }
     }
 
-    private void begin() {
+    private void startOver() {
         nodes[0] = new Node(ROW, 0L);
         nodeCount = 1;
         emptyWaiting();
@@ -188,32 +188,13 @@ public final class CountDesk {
         nodes[nodeCount] = fresh;
         nodeCount++;
         above.append(fresh);
-        settle(fresh);
+        for (Node at = fresh; at != null; at = at.parent) {
+            at.kind = at.sort == CHOICE ? splitter.kindOf(at) : at.kindFromParts();
+        }
         return fresh.number;
     }
 
-    private void settle(Node from) {
-        for (Node at = from; at != null; at = at.parent) {
-            at.kind = kindOf(at);
-        }
-    }
-
-    private int kindOf(Node at) {
-        switch (at.sort) {
-            case ROW:
-                return at.rowKind(0L);
-            case CHOICE:
-                return splitter.kindOf(at);
-            case NOT:
-                return at.notKind();
-            case TEST:
-                return at.testKind();
-            default:
-                return at.kind;
-        }
-    }
-
-    /** What KINDS say of failing and of the MOST successes, and how they come together. */
+    /** What KINDS say of failing and of the MOST successes. */
     private static final class Kinds {
         static boolean canFail(int kind) {
             return kind == SEMIDET || kind == NONDET || kind == NEVER;
@@ -236,20 +217,9 @@ public final class CountDesk {
             return canFail ? NONDET : MULTI;
         }
 
-        static int mostOfBoth(int a, int b) {
-            if (most(a) == 0 || most(b) == 0) {
-                return 0;
-            }
-            return Math.max(most(a), most(b));
-        }
-
-        static int both(int a, int b) {
-            return of(canFail(a) || canFail(b), mostOfBoth(a, b));
-        }
-
-        /** Two MOSTS of 1 make MANY, as a sum does: each one may give its own success. */
-        static int either(int a, int b) {
-            return of(canFail(a) && canFail(b), Math.min(MANY, most(a) + most(b)));
+        /** MOSTS multiply in a ROW and add up in a CHOICE; what is more than 1 is MANY. */
+        static int capped(int most) {
+            return most > 1 ? MANY : most;
         }
     }
 
@@ -282,7 +252,7 @@ public final class CountDesk {
         }
 
         static boolean has(long variables, int x) {
-            return (variables & bit(x)) != 0L;
+            return (variables >>> x & 1L) != 0L;
         }
 
         boolean hasRoom() {
@@ -325,21 +295,37 @@ public final class CountDesk {
             return NONE;
         }
 
+        /** The KIND of any NODE but a CHOICE, by itself. */
+        int kindFromParts() {
+            switch (sort) {
+                case ROW:
+                    return rowKind(0L);
+                case NOT:
+                    return notKind();
+                case TEST:
+                    return testKind();
+                default:
+                    return kind;
+            }
+        }
+
         /** The KIND of a ROW; the first TAKE of each of the known variables counts as DET. */
-        int rowKind(long known) {
-            int result = DET;
+        private int rowKind(long known) {
+            boolean canFail = false;
+            int most = 1;
             long left = known;
             for (Node part = first; part != null; part = part.next) {
                 if (part.sort == TAKE && has(left, part.variable)) {
                     left &= ~bit(part.variable);
                 } else {
-                    result = Kinds.both(result, part.kind);
+                    canFail |= Kinds.canFail(part.kind);
+                    most = Kinds.capped(most * Kinds.most(part.kind));
                 }
             }
-            return result;
+            return Kinds.of(canFail, most);
         }
 
-        int notKind() {
+        private int notKind() {
             if (first == null) {
                 return NEVER;
             }
@@ -349,23 +335,22 @@ public final class CountDesk {
             return Kinds.canFail(first.kind) ? SEMIDET : NEVER;
         }
 
-        int testKind() {
+        private int testKind() {
             Node second = first == null ? null : first.next;
             Node third = second == null ? null : second.next;
             if (first == null || second == null || third == null) {
                 return NEVER;
             }
-            int a = first.kind;
-            int b = second.kind;
-            int c = third.kind;
-            if (!Kinds.canFail(a)) {
-                return Kinds.both(a, b);
+            int mostOfRow = Kinds.capped(Kinds.most(first.kind) * Kinds.most(second.kind));
+            boolean secondCanFail = Kinds.canFail(second.kind);
+            if (!Kinds.canFail(first.kind)) {
+                return Kinds.of(secondCanFail, mostOfRow);
             }
-            if (Kinds.most(a) == 0) {
-                return c;
+            if (Kinds.most(first.kind) == 0) {
+                return third.kind;
             }
-            int most = Math.max(Kinds.most(c), Kinds.mostOfBoth(a, b));
-            return Kinds.of(Kinds.canFail(b) || Kinds.canFail(c), most);
+            int most = Math.max(Kinds.most(third.kind), mostOfRow);
+            return Kinds.of(secondCanFail || Kinds.canFail(third.kind), most);
         }
 
         /** The KIND of a PART of a SWITCH on the known variables (none: its KIND by itself). */
@@ -376,7 +361,7 @@ public final class CountDesk {
             return sort == ROW ? rowKind(known) : kind;
         }
 
-        boolean staysInHead() {
+        private boolean staysInHead() {
             return sort == TAKE || sort == GOAL && kind == DET;
         }
 
@@ -426,9 +411,8 @@ public final class CountDesk {
         int armCount;
         boolean armCanFail;
         int armMost;
-        int result;
 
-        void begin(Arm from, int itsTag) {
+        void open(Arm from, int itsTag) {
             whole = from;
             tag = itsTag;
             known = from == null ? 0L : from.known | Node.bit(from.variable);
@@ -440,10 +424,9 @@ public final class CountDesk {
             armCount = 0;
             armCanFail = false;
             armMost = 0;
-            result = NEVER;
         }
 
-        void append(Node part) {
+        void enlist(Node part) {
             part.beside = null;
             if (last == null) {
                 first = part;
@@ -459,12 +442,12 @@ public final class CountDesk {
             if (size < 2) {
                 return;
             }
-            long open = ~known;
+            long taken = ~known;
             for (Node part = first; part != null; part = part.beside) {
-                open &= part.taken;
+                taken &= part.taken;
             }
             for (int x = 0; x < VARIABLES && variable == NONE; x++) {
-                int common = Node.has(open, x) ? commonAll(x) : NONE;
+                int common = Node.has(taken, x) ? commonAll(x) : NONE;
                 if (common != NONE) {
                     variable = x;
                     all = common;
@@ -485,25 +468,24 @@ public final class CountDesk {
             return common;
         }
 
-        /** Sets the result, when those of its own ARMS are set, and tells it to the whole. */
-        void close() {
-            result = variable == NONE ? choiceKind() : switchKind();
-            if (whole != null) {
-                whole.armCanFail |= Kinds.canFail(result);
-                whole.armMost = Math.max(whole.armMost, Kinds.most(result));
-            }
+        void hear(int kindOfArm) {
+            armCanFail |= Kinds.canFail(kindOfArm);
+            armMost = Math.max(armMost, Kinds.most(kindOfArm));
         }
 
-        private int choiceKind() {
-            int sum = NEVER;
+        /** The KIND of a CHOICE of these PARTS; of a SWITCH when all its ARMS have been heard. */
+        int kindTogether() {
+            if (variable != NONE) {
+                return Kinds.of(all == 0 || armCanFail || armCount < all, armMost);
+            }
+            boolean canFail = true;
+            int most = 0;
             for (Node part = first; part != null; part = part.beside) {
-                sum = Kinds.either(sum, part.kindKnowing(known));
+                int kind = part.kindKnowing(known);
+                canFail &= Kinds.canFail(kind);
+                most = Kinds.capped(most + Kinds.most(kind));
             }
-            return sum;
-        }
-
-        private int switchKind() {
-            return Kinds.of(all == 0 || armCanFail || armCount < all, armMost);
+            return Kinds.of(canFail, most);
         }
     }
 
@@ -523,11 +505,14 @@ public final class CountDesk {
             for (int i = 0; i < openedCount && i < opened.length; i++) {
                 split(opened[i]);
             }
+            // An ARM's own ARMS stand behind it, so they have all been heard when its turn comes.
             for (int i = openedCount - 1; i >= 0; i--) {
-                opened[i].close();
+                Arm arm = opened[i];
+                if (arm.whole != null) {
+                    arm.whole.hear(arm.kindTogether());
+                }
             }
-            top.close();
-            return top.result;
+            return top.kindTogether();
         }
 
         int variableOf(Node choice) {
@@ -548,10 +533,10 @@ public final class CountDesk {
 
         private void gather(Node choice) {
             openedCount = 0;
-            top.begin(null, NONE);
+            top.open(null, NONE);
             for (Node part = choice.first; part != null; part = part.next) {
                 part.taken = part.takenInHead();
-                top.append(part);
+                top.enlist(part);
             }
         }
 
@@ -568,7 +553,7 @@ public final class CountDesk {
                 Node told = part.takeOf(whole.variable);
                 Arm arm = told == null ? null : armFor(told.tag, from, whole);
                 if (arm != null) {
-                    arm.append(part);
+                    arm.enlist(part);
                 }
             }
             whole.armCount = openedCount - from;
@@ -584,7 +569,7 @@ public final class CountDesk {
             }
             arm = opened[openedCount];
             openedCount++;
-            arm.begin(whole, tag);
+            arm.open(whole, tag);
             return arm;
         }
 
