@@ -19,6 +19,7 @@ public final class FitsTest {
             }
         }
         knowsSwitches();
+        asksNodeZero();
         Due.finish();
     }
 
@@ -32,5 +33,17 @@ public final class FitsTest {
         desk.take(choice, 0, 1, 2);
         Due.is("one of them twice", desk.fits(0), 2);
         Due.is("one of them twice, MULTI", desk.fits(2), 0);
+    }
+
+    private static void asksNodeZero() {
+        CountDesk desk = new CountDesk();
+        desk.goal(0, 0);
+        desk.goal(0, 2);
+        Due.is("a row of DET and MULTI, DET", desk.fits(0), 2);
+        desk.goal(0, 1);
+        Due.is("and SEMIDET, SEMIDET", desk.fits(1), 2);
+        Due.is("and SEMIDET, DET: failing is asked first", desk.fits(0), 1);
+        desk.goal(0, 4);
+        Due.is("and NEVER, SEMIDET", desk.fits(1), 0);
     }
 }

@@ -7,6 +7,7 @@ public final class SwitchesTest {
         made();
         least();
         alls();
+        severalInTurn();
         Due.finish();
     }
 
@@ -160,5 +161,25 @@ public final class SwitchesTest {
         desk.take(1, 7, 0, 0);
         Due.is("both without an end", desk.switches(1), 7);
         Due.is("its kind", desk.kind(1), 1);
+    }
+
+    private static void severalInTurn() {
+        CountDesk desk = new CountDesk();
+        int[] variables = {8, 0, 59};
+        for (int x : variables) {
+            int choice = desk.add(0, 1);
+            desk.take(choice, x, 0, 2);
+            desk.take(choice, x, 1, 2);
+        }
+        int not = desk.add(1, 2);
+        desk.take(not, 8, 0, 2);
+        Due.is("with a NOT as a part", desk.switches(1), -1);
+        Due.is("on 0", desk.switches(4), 0);
+        Due.is("on 59", desk.switches(7), 59);
+        Due.is("on 0 again", desk.switches(4), 0);
+        not = desk.add(4, 2);
+        desk.take(not, 0, 0, 2);
+        Due.is("on 0, with a NOT", desk.switches(4), -1);
+        Due.is("on 59 again", desk.switches(7), 59);
     }
 }
