@@ -503,12 +503,15 @@ public final class CountDesk {
             gather(choice);
             split(top);
             for (int i = 0; i < openedCount && i < opened.length; i++) {
-                split(opened[i]);
+                Arm arm = openedAt(i);
+                if (arm != null) {
+                    split(arm);
+                }
             }
             // An ARM's own ARMS stand behind it, so they have all been heard when its turn comes.
             for (int i = openedCount - 1; i >= 0; i--) {
-                Arm arm = opened[i];
-                if (arm.whole != null) {
+                Arm arm = openedAt(i);
+                if (arm != null && arm.whole != null) {
                     arm.whole.hear(arm.kindTogether());
                 }
             }
@@ -575,11 +578,16 @@ public final class CountDesk {
 
         private Arm openedFor(int tag, int from) {
             for (int i = from; i < openedCount; i++) {
-                if (opened[i].tag == tag) {
-                    return opened[i];
+                Arm arm = openedAt(i);
+                if (arm != null && arm.tag == tag) {
+                    return arm;
                 }
             }
             return null;
+        }
+
+        private Arm openedAt(int i) {
+            return i < 0 || i >= openedCount || i >= opened.length ? null : opened[i];
         }
     }
 }

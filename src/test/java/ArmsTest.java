@@ -35,6 +35,8 @@ public final class ArmsTest {
         Due.is("no SWITCH any more, tag", desk.arms(1, 3), 0);
         manyArms();
         armsOfArmsDoNotCount();
+        edgesOfTags();
+        otherSorts();
         Due.finish();
     }
 
@@ -65,5 +67,43 @@ public final class ArmsTest {
         Due.is("arm 1", desk.arms(1, 1), 3);
         Due.is("a tag of the arms' own SWITCHES", desk.arms(1, 3), 0);
         Due.is("kind", desk.kind(1), 1);
+    }
+
+    /** Of an ALL the least and the greatest TAG have an ARM, those beside them none. */
+    private static void edgesOfTags() {
+        int[] alls = {0, 1, 2, 99, 100};
+        for (int all : alls) {
+            int last = all == 0 ? 99 : all - 1;
+            CountDesk desk = new CountDesk();
+            int choice = desk.add(0, 1);
+            desk.take(choice, 59, 0, all);
+            desk.take(choice, 59, last, all);
+            desk.take(choice, 59, last, all);
+            Due.is("arms, ALL " + all, desk.arms(choice, -1), last == 0 ? 1 : 2);
+            Due.is("arm 0, ALL " + all, desk.arms(choice, 0), last == 0 ? 3 : 1);
+            Due.is("arm " + last, desk.arms(choice, last), last == 0 ? 3 : 2);
+            int[] none = {-2, last + 1, 100, 101, Integer.MIN_VALUE, Integer.MAX_VALUE};
+            for (int tag : none) {
+                Due.is("arm " + tag + ", ALL " + all, desk.arms(choice, tag), 0);
+            }
+        }
+    }
+
+    /** What is no CHOICE is no SWITCH, though its PARTS are as those of one. */
+    private static void otherSorts() {
+        for (int sort = 0; sort < 4; sort++) {
+            CountDesk desk = new CountDesk();
+            int node = desk.add(0, sort);
+            for (int tag = 0; tag < 3; tag++) {
+                desk.take(node, 0, tag, 3);
+                desk.take(0, 0, tag, 3);
+            }
+            Due.is("arms of sort " + sort, desk.arms(node, -1), sort == 1 ? 3 : 0);
+            Due.is("an arm of sort " + sort, desk.arms(node, 0), sort == 1 ? 1 : 0);
+            Due.is("arms of NODE 0", desk.arms(0, -1), 0);
+            Due.is("an arm of NODE 0", desk.arms(0, 0), 0);
+            Due.is("arms of a TAKE", desk.arms(2, -1), 0);
+            Due.is("an arm of a TAKE", desk.arms(2, 0), 0);
+        }
     }
 }

@@ -20,6 +20,7 @@ public final class FitsTest {
         }
         knowsSwitches();
         asksNodeZero();
+        emptyAndAfterClear();
         Due.finish();
     }
 
@@ -45,5 +46,25 @@ public final class FitsTest {
         Due.is("and SEMIDET, DET: failing is asked first", desk.fits(0), 1);
         desk.goal(0, 4);
         Due.is("and NEVER, SEMIDET", desk.fits(1), 0);
+    }
+
+    private static void emptyAndAfterClear() {
+        CountDesk desk = new CountDesk();
+        int[] edges = {-1, 0, 3, 4, Integer.MIN_VALUE, Integer.MAX_VALUE};
+        int[] ofEmpty = {3, 0, 0, 3, 3, 3};
+        int[] ofNondet = {3, 1, 0, 3, 3, 3};
+        for (int i = 0; i < edges.length; i++) {
+            Due.is("fits(" + edges[i] + ") of NODE 0 alone", desk.fits(edges[i]), ofEmpty[i]);
+        }
+        desk.goal(0, 3);
+        for (int i = 0; i < edges.length; i++) {
+            Due.is("fits(" + edges[i] + ") of NONDET", desk.fits(edges[i]), ofNondet[i]);
+        }
+        Due.is("NONDET, SEMIDET: MANY", desk.fits(1), 2);
+        Due.is("NONDET, MULTI: it can fail", desk.fits(2), 1);
+        desk.clear();
+        for (int i = 0; i < edges.length; i++) {
+            Due.is("fits(" + edges[i] + ") after clear", desk.fits(edges[i]), ofEmpty[i]);
+        }
     }
 }

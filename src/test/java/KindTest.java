@@ -15,6 +15,7 @@ public final class KindTest {
         switches();
         switchesInArms();
         withinSwitches();
+        noneSuch();
         Due.finish();
     }
 
@@ -251,5 +252,25 @@ public final class KindTest {
         Due.is("a SWITCH in a SWITCH", desk.kind(choice), DET);
         desk.goal(inner, 0);
         Due.is("no SWITCH deeper in", desk.kind(choice), MULTI);
+    }
+
+    /** The NODES go from 0 to the last one: NODE 0 alone, some, all 250, and after clear. */
+    private static void noneSuch() {
+        CountDesk desk = new CountDesk();
+        for (int last = 0; last <= 249; last++) {
+            if (last < 100 || last > 245) {
+                Due.is("kind(" + last + "), the last", desk.kind(last), last == 0 ? DET : SEMIDET);
+                Due.is("kind(" + (last + 1) + "), none such", desk.kind(last + 1), -1);
+            }
+            if (last < 249) {
+                desk.goal(0, SEMIDET);
+            }
+        }
+        desk.clear();
+        int[] gone = {1, 248, 249, 250, -1, Integer.MIN_VALUE, Integer.MAX_VALUE};
+        for (int node : gone) {
+            Due.is("kind(" + node + ") after clear", desk.kind(node), -1);
+        }
+        Due.is("kind(0) after clear", desk.kind(0), DET);
     }
 }

@@ -23,18 +23,10 @@ public final class NewAndClearTest {
         desk.clear();
         rowIsEmpty("clear", desk);
 
-        desk.clear();
-        desk.put(4);
-        desk.clear();
-        // 4 was put ahead of clear: the GOAL does not MAKE it.
-        int choice = desk.add(0, 1);
-        int row = desk.add(choice, 0);
-        desk.goal(row, 0);
-        desk.take(row, 4, 0, 2);
-        desk.take(choice, 4, 1, 2);
-        Due.is("switches after clear", desk.switches(choice), 4);
-
         refillsAfterClear();
+        clearWithSoManyPut();
+        clearForgetsDepthAndFullness();
+        newObjectsAreApart();
         Due.finish();
     }
 
@@ -52,6 +44,7 @@ public final class NewAndClearTest {
         }
     }
 
+    /** All that can be seen of an empty row: seven fit, and an eighth does not. */
     private static void rowIsEmpty(String when, CountDesk desk) {
         for (int i = 0; i < 7; i++) {
             Due.is(when + ": put " + i, desk.put(i), true);
@@ -71,5 +64,49 @@ public final class NewAndClearTest {
             Due.is("refill", desk.goal(0, 0), i);
         }
         Due.is("kind(0) refilled", desk.kind(0), 0);
+    }
+
+    private static void clearWithSoManyPut() {
+        for (int count = 0; count <= 8; count++) {
+            CountDesk desk = new CountDesk();
+            for (int i = 0; i < count; i++) {
+                Due.is("put " + i, desk.put(59 - i), i < 7);
+            }
+            desk.clear();
+            rowIsEmpty("clear, so many put: " + count, desk);
+            desk.clear();
+            desk.clear();
+            alone("clear twice", desk);
+            rowIsEmpty("clear twice", desk);
+        }
+    }
+
+    private static void clearForgetsDepthAndFullness() {
+        for (int sort = 0; sort < 4; sort++) {
+            CountDesk desk = new CountDesk();
+            for (int round = 0; round < 3; round++) {
+                for (int depth = 1; depth <= 20; depth++) {
+                    Due.is("round " + round + ", depth " + depth, desk.add(depth - 1, sort), depth);
+                }
+                Due.is("20 deep", desk.add(20, sort), -1);
+                desk.clear();
+                alone("clear of 20 deep", desk);
+                for (int node = 1; node <= 21; node++) {
+                    Due.is("gone: " + node, desk.node(node, 0), -1);
+                }
+            }
+        }
+    }
+
+    private static void newObjectsAreApart() {
+        CountDesk one = new CountDesk();
+        one.goal(0, 4);
+        one.put(3);
+        CountDesk other = new CountDesk();
+        alone("another object", other);
+        rowIsEmpty("another object", other);
+        other.clear();
+        Due.is("the first keeps its tree", one.kind(0), 4);
+        Due.is("the first keeps its parts", one.node(0, 1), 1);
     }
 }

@@ -27,6 +27,8 @@ public final class PutTest {
         eachIsMade();
         allSevenAreMade();
         emptiedBy();
+        refusedAtEachCount();
+        refusedIsNotMade();
         Due.finish();
     }
 
@@ -101,6 +103,42 @@ public final class PutTest {
                 Due.is("put again, " + how, desk.put(5), true);
             }
             Due.is("put 8th, " + how, desk.put(5), false);
+        }
+    }
+
+    /** The edges of 0 .. 59 with 0 to 7 in the row; what is refused takes none of the 7 places. */
+    private static void refusedAtEachCount() {
+        int[] wrong = {-1, 60, Integer.MIN_VALUE, Integer.MAX_VALUE};
+        for (int edge = 0; edge <= 59; edge += 59) {
+            CountDesk desk = new CountDesk();
+            for (int count = 0; count <= 7; count++) {
+                for (int x : wrong) {
+                    Due.is("put(" + x + ") with " + count, desk.put(x), false);
+                }
+                Due.is("put(" + edge + ") with " + count, desk.put(edge), count < 7);
+            }
+            Due.is("put(30) with 7", desk.put(30), false);
+            desk.add(0, -1);
+            Due.is("put(30) with 0", desk.put(30), true);
+        }
+    }
+
+    /** A number that is refused is not taken for another one, as by the bits of an int or a long. */
+    private static void refusedIsNotMade() {
+        int[] wrong = {-1, -4, -64, -60, 60, 63, 64, 119, 123, 128, 256, Integer.MIN_VALUE, Integer.MAX_VALUE};
+        for (int x = 0; x < 60; x++) {
+            CountDesk desk = new CountDesk();
+            int choice = desk.add(0, 1);
+            int row = desk.add(choice, 0);
+            for (int put : wrong) {
+                Due.is("put(" + put + ")", desk.put(put), false);
+            }
+            Due.is("put(" + (x - 64) + ")", desk.put(x - 64), false);
+            Due.is("put(" + (x + 64) + ")", desk.put(x + 64), false);
+            desk.goal(row, 0);
+            desk.take(row, x, 0, 2);
+            desk.take(choice, x, 1, 2);
+            Due.is("refused, so not made: " + x, desk.switches(choice), x);
         }
     }
 }

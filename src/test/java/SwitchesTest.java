@@ -8,6 +8,8 @@ public final class SwitchesTest {
         least();
         alls();
         severalInTurn();
+        lastNode();
+        afterClear();
         Due.finish();
     }
 
@@ -181,5 +183,41 @@ public final class SwitchesTest {
         desk.take(not, 0, 0, 2);
         Due.is("on 0, with a NOT", desk.switches(4), -1);
         Due.is("on 59 again", desk.switches(7), 59);
+    }
+
+    /** NODE 249 is the last there can be; a CHOICE there is none, as it has no room for PARTS. */
+    private static void lastNode() {
+        CountDesk desk = new CountDesk();
+        for (int number = 1; number <= 246; number++) {
+            desk.goal(0, 0);
+        }
+        Due.is("a choice", desk.add(0, 1), 247);
+        Due.is("no PART", desk.switches(247), -1);
+        desk.take(247, 59, 0, 2);
+        Due.is("one PART", desk.switches(247), -1);
+        desk.take(247, 59, 1, 2);
+        Due.is("two PARTS", desk.switches(247), 59);
+        Due.is("its last PART is none", desk.switches(249), -1);
+        Due.is("none such", desk.switches(250), -1);
+        Due.is("one more is refused", desk.take(247, 58, 1, 2), -1);
+        Due.is("it is one still", desk.switches(247), 59);
+        Due.is("NODE 0 is none", desk.switches(0), -1);
+    }
+
+    private static void afterClear() {
+        CountDesk desk = new CountDesk();
+        for (int round = 0; round < 3; round++) {
+            int choice = desk.add(0, 1);
+            desk.take(choice, 59 - round, 0, 2);
+            desk.take(choice, 59 - round, 1, 2);
+            Due.is("round " + round, desk.switches(choice), 59 - round);
+            desk.clear();
+            Due.is("after clear", desk.switches(choice), -1);
+            Due.is("arms after clear", desk.arms(choice, -1), 0);
+            Due.is("an arm after clear", desk.arms(choice, 0), 0);
+            Due.is("a new CHOICE in its place", desk.add(0, 1), choice);
+            Due.is("it is none", desk.switches(choice), -1);
+            desk.clear();
+        }
     }
 }
