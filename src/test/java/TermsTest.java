@@ -13,6 +13,7 @@ public final class TermsTest {
 
     public static void main(String[] args) {
         withoutParts();
+        choiceWithoutPartsAfterOthers();
         testWithTooFew();
         testWithThree();
         choiceOfOne();
@@ -54,6 +55,32 @@ public final class TermsTest {
             desk.add(not, sort);
             Due.is("NOT of an empty one of sort " + sort, desk.kind(not), inNot[sort]);
         }
+    }
+
+    /** Nothing of a CHOICE that was looked at before is left for one without PARTS. */
+    private static void choiceWithoutPartsAfterOthers() {
+        for (int kind = 0; kind < 5; kind++) {
+            CountDesk desk = new CountDesk();
+            int filled = desk.add(0, CHOICE);
+            desk.goal(filled, kind);
+            Due.is("CHOICE of " + kind, desk.kind(filled), kind);
+            int empty = desk.add(0, CHOICE);
+            Due.is("an empty CHOICE behind it", desk.kind(empty), NEVER);
+            Due.is("it is no SWITCH", desk.switches(empty), -1);
+            Due.is("it has no ARMS", desk.arms(empty, -1), 0);
+            Due.is("the filled one", desk.kind(filled), kind);
+        }
+        CountDesk desk = new CountDesk();
+        int filled = desk.add(0, CHOICE);
+        desk.take(filled, 0, 0, 2);
+        desk.take(filled, 0, 1, 2);
+        int empty = desk.add(0, CHOICE);
+        Due.is("an empty CHOICE behind a SWITCH", desk.kind(empty), NEVER);
+        Due.is("it is no SWITCH", desk.switches(empty), -1);
+        Due.is("it has no ARMS", desk.arms(empty, -1), 0);
+        Due.is("no PARTS of an ARM", desk.arms(empty, 0), 0);
+        desk.clear();
+        Due.is("an empty CHOICE after clear", desk.kind(desk.add(0, CHOICE)), NEVER);
     }
 
     private static void testWithTooFew() {
